@@ -177,7 +177,6 @@ public final class RainLoans {
         int debtor = custom.terms[loan].debtor;
         ahead.start(book);
         long waiting = ahead.total(custom, days, Ahead.COINS_HELD, debtor);
-        ahead.start(book);
         ahead.startPaid(custom, loan);
         long paying = ahead.total(custom, days, Ahead.COINS_HELD, debtor);
         if (paying == waiting) {
@@ -720,6 +719,7 @@ public final class RainLoans {
             books[0].copyFrom(book);
         }
 
+        /** Starts from the same book once more, but with a loan paid early. */
         void startPaid(Custom custom, int loan) {
             books[0].payNow(custom, loan);
         }
@@ -1189,7 +1189,16 @@ public final class RainLoans {
             readWord(Word.PAYS);
             told.pays[bet] = readNumber(0, 999);
             readWord(Word.IF);
-            told.wins[bet] = readWins();
+            told.wins[bet] = 0;
+            // The expression is read once for each weather, so that no tree of it need be kept.
+            int start = tape.at;
+            for (int wet = 0; wet < ALL_WEATHERS && fault == 0; wet++) {
+                tape.at = start;
+                weather = wet;
+                if (readExpression(0) != 0) {
+                    told.wins[bet] |= 1 << wet;
+                }
+            }
             readSign(';');
             told.bets++;
         }
@@ -1274,20 +1283,6 @@ public final class RainLoans {
                 tape.readOn();
             }
             return kind;
-        }
-
-        /** The weathers in which an expression is not 0, as bits: it is read once for each. */
-        private int readWins() {
-            int start = tape.at;
-            int wins = 0;
-            for (int wet = 0; wet < ALL_WEATHERS && fault == 0; wet++) {
-                tape.at = start;
-                weather = wet;
-                if (readExpression(0) != 0) {
-                    wins |= 1 << wet;
-                }
-            }
-            return wins;
         }
 
         private int readExpression(int depth) {

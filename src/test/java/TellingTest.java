@@ -206,6 +206,20 @@ public final class TellingTest {
         }
     }
 
+    /** What an earlier text told is not read again behind the end of a shorter one. */
+    private static void shorterTexts() {
+        String text = WORLD + "loan a to b coins 9 rate 1 due 3 on h plain bail c;bet 1 pays 2 if not(first<1);";
+        RainLoans x = new RainLoans();
+        for (int length = text.length(); length >= 0; length--) {
+            CHECK.same("custom() of it all", Check.tell(x, text), 0);
+            boolean whole = length == 0 || text.charAt(length - 1) == ';';
+            String cut = text.substring(0, length);
+            boolean inWord = length > 0 && Character.isLetter(text.charAt(length - 1));
+            int got = Check.tell(x, cut);
+            CHECK.same("custom() of " + cut, whole ? got == 0 : got % 16 == 1 && got / 16 == length || inWord, true);
+        }
+    }
+
     private static void newCustomBeginsAnew() {
         String flood = "hill h dry 1 wet 2;hill k dry 3 wet 4;purse a 10;purse b 20;"
                 + "loan a to b coins 30 rate 5 due 2 on h plain;";
@@ -237,6 +251,7 @@ public final class TellingTest {
         loans();
         bets();
         faultsLeaveAll();
+        shorterTexts();
         newCustomBeginsAnew();
         CHECK.end();
     }
