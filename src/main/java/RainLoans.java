@@ -129,7 +129,7 @@ public final class RainLoans {
     }
 
     public int ruined() {
-        return book.broken;
+        return book.brokenPersons(custom);
     }
 
     public int has(int person) throws NoSuchElementException {
@@ -455,8 +455,8 @@ public final class RainLoans {
         int today;
         int floods;
         int weather;
-        /** Persons that are ruined, as bits. */
-        int broken;
+        /** Loans that were called on the last day, as bits: one may be paid early behind it. */
+        private int called;
         final int[] purses;
         final int[] owes;
         final int[] stages;
@@ -475,7 +475,7 @@ public final class RainLoans {
             today = 0;
             floods = 0;
             weather = 0;
-            broken = 0;
+            called = 0;
             for (int person = 0; person < custom.persons; person++) {
                 purses[person] = custom.coins[person];
             }
@@ -491,7 +491,7 @@ public final class RainLoans {
             today = other.today;
             floods = other.floods;
             weather = other.weather;
-            broken = other.broken;
+            called = other.called;
             System.arraycopy(other.purses, 0, purses, 0, MOST_PERSONS);
             System.arraycopy(other.owes, 0, owes, 0, MOST_LOANS);
             System.arraycopy(other.stages, 0, stages, 0, MOST_LOANS);
@@ -507,9 +507,9 @@ public final class RainLoans {
                 callAllIn(custom);
             }
             joinDue(custom);
-            int called = calledOn(custom, wet, flood);
-            settle(custom, called, wet != 0);
-            closePaid(custom, called);
+            called = calledOn(custom, wet, flood);
+            settle(custom, wet != 0);
+            closePaid(custom);
             today++;
             weather = wet;
         }
@@ -552,25 +552,28 @@ public final class RainLoans {
             return false;
         }
 
-        /** The loans that are called, as bits. */
         private int calledOn(Custom custom, int wet, boolean flood) {
-            int called = 0;
+            int found = 0;
             for (int loan = 0; loan < custom.loans; loan++) {
                 boolean byFlood = flood && custom.terms[loan].kind != Terms.HIDDEN;
                 if (stages[loan] == DUE && (byFlood || custom.isRipe(loan, wet))) {
-                    called |= 1 << loan;
+                    found |= 1 << loan;
                 }
             }
-            return called;
+            return found;
         }
 
-        private void settle(Custom custom, int called, boolean bailed) {
+        private boolean isCalled(int loan) {
+            return ((called >> loan) & 1) == 1;
+        }
+
+        private void settle(Custom custom, boolean bailed) {
             boolean moved = called != 0;
             for (int round = 0; moved && round < MOST_ROUNDS; round++) {
                 moved = false;
                 for (int loan = 0; loan < custom.loans; loan++) {
                     Terms terms = custom.terms[loan];
-                    if (((called >> loan) & 1) == 1) {
+                    if (isCalled(loan)) {
                         moved |= take(loan, terms.debtor, terms.lender);
                         moved |= bailed && terms.bail != NONE && take(loan, terms.bail, terms.lender);
                     }
@@ -591,15 +594,23 @@ public final class RainLoans {
             return true;
         }
 
-        private void closePaid(Custom custom, int called) {
-            broken = 0;
+        private void closePaid(Custom custom) {
             for (int loan = 0; loan < custom.loans; loan++) {
                 if (owes[loan] == 0) {
                     stages[loan] = PAID;
-                } else if (((called >> loan) & 1) == 1) {
+                }
+            }
+        }
+
+        /** Debtors that are ruined, as bits. */
+        int brokenPersons(Custom custom) {
+            int broken = 0;
+            for (int loan = 0; loan < custom.loans; loan++) {
+                if (isCalled(loan) && stages[loan] != PAID) {
                     broken |= 1 << custom.terms[loan].debtor;
                 }
             }
+            return broken;
         }
 
         boolean canPayNow(Custom custom, int loan) {
@@ -828,7 +839,7 @@ public final class RainLoans {
                 paidLoans += book.loansAt(custom, Book.PAID);
                 dueCoins += book.coinsDue(custom);
                 floods += book.floods - now.floods;
-                ruinedPersons += Integer.bitCount(book.broken);
+                ruinedPersons += Integer.bitCount(book.brokenPersons(custom));
             }
         }
 

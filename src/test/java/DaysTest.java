@@ -197,7 +197,34 @@ public final class DaysTest {
         CHECK.same("early(1)", due.early(1), true);
         CHECK.same("early(0), which is due", due.early(0), true);
         loanIs(due, 0, 0, 2, 1, 9);
-        CHECK.same("ruined() tells of the day, not of what is paid behind it", due.ruined(), 2);
+        CHECK.same("a loan that is paid early behind the day ruins nobody", due.ruined(), 0);
+    }
+
+    private static void ruined() {
+        // Both loans of b are called and not paid; a third one, which c can't pay, is not called.
+        RainLoans x = Check.told("hill h dry 1 wet 1;purse a 0;purse b 0;purse c 20;"
+                + "loan a to b coins 9 rate 0 due 1 on h plain;loan a to b coins 8 rate 0 due 1 on h plain;"
+                + "loan b to c coins 20 rate 0 due 9 on h plain;loan b to c coins 99 rate 0 due 1 on h dry;");
+        CHECK.same("ruined() on day 0", x.ruined(), 0);
+        CHECK.same("day(1)", x.day(1), 2);
+        CHECK.same("ruined()", x.ruined(), 2);
+        CHECK.same("early(2), which was not called", x.early(2), true);
+        CHECK.same("a full purse alone lifts nothing", x.ruined(), 2);
+        x.mark(0, false);
+        CHECK.same("early(0)", x.early(0), true);
+        CHECK.same("the other one is not paid yet", x.ruined(), 2);
+        CHECK.same("early(1)", x.early(1), true);
+        CHECK.same("both are paid", x.ruined(), 0);
+        CHECK.same("undo()", x.undo(), true);
+        CHECK.same("one is not paid again", x.ruined(), 2);
+        CHECK.same("early(1)", x.early(1), true);
+        CHECK.same("paid again", x.ruined(), 0);
+        CHECK.same("mark(0, true)", x.mark(0, true), true);
+        CHECK.same("as it was on the mark", x.ruined(), 2);
+        CHECK.same("day(0)", x.day(0), 3);
+        CHECK.same("others are called on the next day", x.ruined(), 4);
+        CHECK.same("a new custom", Check.tell(x, "purse a 1;purse b 1;purse c 1;"), 0);
+        CHECK.same("ruined() on day 0", x.ruined(), 0);
     }
 
     private static void undo() {
@@ -232,6 +259,7 @@ public final class DaysTest {
         bail();
         rounds();
         early();
+        ruined();
         undo();
         CHECK.end();
     }

@@ -153,13 +153,26 @@ public final class ModelTest {
         same("ruined()", x.ruined(), model.ruined());
     }
 
+    private void payEarly(int loan) {
+        same("early(" + loan + ")", x.early(loan) ? 1 : 0, model.early(loan) ? 1 : 0);
+    }
+
+    /** Coins that are paid early to a ruined debtor may go on to the lender: one call alone seldom gets there. */
+    private void payAround(int first) {
+        for (int i = 0; i < 12 && !oneIn(10); i++) {
+            payEarly((first + i) % 12);
+            same("ruined()", x.ruined(), model.ruined());
+        }
+    }
+
     private void change() {
         int loan = below(12) - 1;
         int mark = below(6) - 1;
         int wet = oneIn(20) ? below(20) - 2 : below(1 << model.count(0));
         boolean back = oneIn(2);
         switch (below(12)) {
-            case 0, 1, 2 -> same("early(" + loan + ")", x.early(loan) ? 1 : 0, model.early(loan) ? 1 : 0);
+            case 0, 1 -> payEarly(loan);
+            case 2 -> payAround(loan);
             case 3 -> same("undo()", x.undo() ? 1 : 0, model.undo() ? 1 : 0);
             case 4 -> same("mark(" + mark + ", " + back + ")", x.mark(mark, back) ? 1 : 0, model.mark(mark, back) ? 1 : 0);
             default -> same("day(" + wet + ")", x.day(wet), model.day(wet));

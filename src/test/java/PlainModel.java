@@ -38,7 +38,7 @@ final class PlainModel {
         int day;
         int floods;
         int weather;
-        int ruined;
+        List<Integer> called = List.of();
         int[] purse;
         int[] owes;
         int[] stage;
@@ -397,14 +397,17 @@ final class PlainModel {
                 }
             }
         } while (!Arrays.equals(before, s.owes));
-        s.ruined = 0;
         for (int i : called) {
             if (s.owes[i] == 0) {
                 s.stage[i] = 2;
-            } else {
-                s.ruined |= 1 << rules.deals.get(i).debtor;
             }
         }
+        s.called = called;
+    }
+
+    private Set<Integer> ruinedIn(State s) {
+        return s.called.stream().filter(i -> s.stage[i] != 2).map(i -> rules.deals.get(i).debtor)
+                .collect(java.util.stream.Collectors.toSet());
     }
 
     private boolean noLoan(int loan) {
@@ -483,7 +486,7 @@ final class PlainModel {
     }
 
     int ruined() {
-        return now.ruined;
+        return ruinedIn(now).stream().mapToInt(p -> 1 << p).sum();
     }
 
     int has(int person) {
@@ -636,7 +639,7 @@ final class PlainModel {
                 all[1] += s.stage[i] == 1 ? s.owes[i] : 0;
             }
             all[2] += s.floods - now.floods;
-            all[3] += Integer.bitCount(s.ruined);
+            all[3] += ruinedIn(s).size();
         }
         return all[what];
     }
