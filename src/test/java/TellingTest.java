@@ -3,22 +3,12 @@ public final class TellingTest {
     private static final Check CHECK = new Check();
     private static final String WORLD = "hill h dry 4 wet 4;purse a 1;purse b 2;purse c 3;";
 
-    /** The fault of this kind at the place of the sign ^ (which is taken out), or 0 without one. */
     private static void fault(int kind, String marked) {
-        int place = marked.indexOf('^');
-        String text = place < 0 ? marked : marked.substring(0, place) + marked.substring(place + 1);
-        RainLoans x = new RainLoans();
-        Check.feed(x, text);
-        CHECK.same("custom() of " + text, x.custom(), kind == 0 ? 0 : kind + 16 * place);
-        CHECK.same("count(7) behind custom()", x.count(7), 0);
+        CHECK.fault(kind, marked);
     }
 
     private static String times(String part, int n) {
-        StringBuilder all = new StringBuilder();
-        for (int i = 0; i < n; i++) {
-            all.append(part.replace('#', (char) ('a' + i)));
-        }
-        return all.toString();
+        return Check.times(part, n);
     }
 
     private static void newObject() {
@@ -209,9 +199,8 @@ public final class TellingTest {
     /** What an earlier text told is not read again behind the end of a shorter one. */
     private static void shorterTexts() {
         String text = WORLD + "loan a to b coins 9 rate 1 due 3 on h plain bail c;bet 1 pays 2 if not(first<1);";
-        RainLoans x = new RainLoans();
         for (int length = text.length(); length >= 0; length--) {
-            CHECK.same("custom() of it all", Check.tell(x, text), 0);
+            RainLoans x = Check.told(text);
             boolean whole = length == 0 || text.charAt(length - 1) == ';';
             String cut = text.substring(0, length);
             boolean inWord = length > 0 && Character.isLetter(text.charAt(length - 1));
